@@ -221,7 +221,17 @@ public final class SexpMotion {
         startReading();
         for (int at = 0; at < count; at++) {
             forgetCharacter(at);
-            readCharacter(at);
+            carryState(at);
+            if (escapedAtGap[at]) {
+                continue;
+            }
+            if (modeAtGap[at] == IN_PLAIN) {
+                readInPlain(at);
+            } else if (modeAtGap[at] == IN_STRING) {
+                readInString(at);
+            } else {
+                readInRemark(at);
+            }
         }
         findWords();
     }
@@ -233,7 +243,6 @@ public final class SexpMotion {
         innermostAtGap[0] = NONE;
         strayCount = 0;
         unitCount = 0;
-        stringBegin = NONE;
     }
 
     private void forgetCharacter(int at) {
@@ -244,26 +253,12 @@ public final class SexpMotion {
         unitBeginFrom[at] = NONE;
     }
 
-    private void readCharacter(int at) {
-        int next = at + 1;
-        modeAtGap[next] = modeAtGap[at];
-        escapedAtGap[next] = false;
-        depthAtGap[next] = depthAtGap[at];
-        innermostAtGap[next] = innermostAtGap[at];
-        if (escapedAtGap[at]) {
-            return;
-        }
-        switch (modeAtGap[at]) {
-            case IN_PLAIN:
-                readInPlain(at);
-                break;
-            case IN_STRING:
-                readInString(at);
-                break;
-            default:
-                readInRemark(at);
-                break;
-        }
+    /** Escaping ends with the one character; all else stays unless that character changes it. */
+    private void carryState(int at) {
+        modeAtGap[at + 1] = modeAtGap[at];
+        escapedAtGap[at + 1] = false;
+        depthAtGap[at + 1] = depthAtGap[at];
+        innermostAtGap[at + 1] = innermostAtGap[at];
     }
 
     private void readInPlain(int at) {

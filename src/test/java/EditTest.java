@@ -194,6 +194,12 @@ public final class EditTest {
         x.delete(1, 2);
         check.due("strays() without the OPEN", x.strays(), 2);
         check.due("partner(2) without the OPEN", x.partner(2), -2);
+        SexpMotion y = Check.text("w\\( ((");
+        y.delete(4, 6);
+        check.due("down(0) after the OPENs went", y.down(0), -2);
+        y.set(1, 1);
+        check.dueInTurn("escaped after the ESCAPE went", y::escaped, 0, 0, 0, 0, 0, -1);
+        check.due("down(0) after the ESCAPE went", y.down(0), 3);
     }
 
     private static void objectsAreApart() {

@@ -87,6 +87,7 @@ public final class MotionTest {
         down("\"(", -2, -2, -2);
         check.refusesFar("down", Check.text("((")::down);
         check.due("down to gap 64", Check.text("w".repeat(63) + "(").down(0), 64);
+        check.due("down at gap 64", Check.text("w".repeat(63) + "(").down(64), -2);
     }
 
     private static void units(String signs, int want) {
