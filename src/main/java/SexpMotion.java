@@ -30,7 +30,7 @@ public final class SexpMotion {
     private final int[] depthAtGap = new int[GAPS];
 
     // The innermost open bracket at the gap before an OPEN is the bracket
-    // around that OPEN, so this one array links every list of open brackets.
+    // around that OPEN, so a CLOSE finds here what becomes innermost after it.
     private final int[] innermostAtGap = new int[GAPS];
 
     private final boolean[] joins = new boolean[CAPACITY];
@@ -40,7 +40,9 @@ public final class SexpMotion {
     private final int[] unitBeginFrom = new int[CAPACITY];
     private int strayCount = 0;
     private int unitCount = 0;
-    private int stringBegin = NONE;
+
+    /** Where the string began that is being read; outside a string it tells nothing. */
+    private int stringBegin = 0;
 
     public SexpMotion() {
         readText();
@@ -121,11 +123,13 @@ public final class SexpMotion {
         if (level < 0 || level >= depthAtGap[gap]) {
             return -2;
         }
-        int bracket = innermostAtGap[gap];
-        for (int i = depthAtGap[gap] - 1; i > level; i--) {
-            bracket = innermostAtGap[bracket];
+        // Of the brackets that joined at this level, only the last can still be open.
+        for (int at = gap - 1; at >= 0; at--) {
+            if (joins[at] && depthAtGap[at] == level) {
+                return at;
+            }
         }
-        return bracket;
+        return -2;
     }
 
     public int partner(int at) {
